@@ -149,6 +149,8 @@ public final class PromiseTest {
     netFault("places 2;carter x", 16, 0);
     netFault("places 2;load 0 0 1 1", 14, 1);
     netFault("places 2;load 8 0 1 1", 14, 1);
+    netFault("places 2;load 1 2 1 1", 16, 1);
+    netFault("places 2;load 1 0 2 1", 18, 1);
     netFault("places 2;load 1 0 0 1", 18, 1);
     netFault("places 2;load 1 0 1 100", 20, 1);
     String roads = "places 2" + ";road 0 1 1 0".repeat(16);
@@ -241,6 +243,9 @@ public final class PromiseTest {
     holds("1=2 and 1=1 or 1=1", true);
     holds("1=1 or 1=1 and 1=2", true);
     holds("[1=1 or 1=1] and 1=2", false);
+    holds("1=1 or 1=2 or 1=2", true);
+    holds("1=2 or 1=1 and 1=1 or 1=2 and 1=1", true);
+    holds("1=1 and 1=2 or 1=2 or 1=2 and 1=1", false);
     holds("not 1=2 and 1=1", true);
     holds("not 1=1 or 1=1", true);
     holds("not [1=1 or 1=1]", false);
@@ -456,6 +461,13 @@ public final class PromiseTest {
     // 12 roads that may be wiped or not make more than 1000 situations
     LastLoads y = with("places 4" + ";road 0 1 1 5".repeat(12) + ";carter 0;load 4 2 3 1");
     due("unknown", y.plan(0, 0), -3);
+    // just 1000 situations, and just 1001
+    net(y, "places 6;road 3 1 3 0;road 3 2 1 1;road 2 0 3 2;road 2 0 3 1;road 0 1 1 2;road 0 2 3 0;road 3 1 3 1"
+        + ";road 2 3 1 1;road 3 2 1 2;road 2 3 3 1;carter 0;load 2 4 5 1");
+    due("1000", y.plan(0, 0), -2);
+    net(y, "places 8;road 0 3 2 2;road 5 1 1 1;road 5 2 2 0;road 3 2 3 1;road 0 3 1 2;road 5 3 3 2;road 4 1 1 2"
+        + ";road 4 0 1 1;road 4 3 1 0;carter 0;load 1 3 7 1");
+    due("1001", y.plan(0, 0), -3);
     // without a road he goes nowhere
     LastLoads z = with("places 2;carter 0;load 4 0 1 1");
     due("no road", z.plan(0, 0), -2);
