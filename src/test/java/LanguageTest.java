@@ -86,15 +86,6 @@ public final class LanguageTest {
     }
   }
 
-  private static void say(LastLoads x, String text) {
-    for (int i = 0; i < text.length(); i += 20) {
-      int[] w = new int[5];
-      for (int k = 0; k < 20; k++) w[k / 4] = w[k / 4] << 8 | (i + k < text.length() ? text.charAt(i + k) : 0);
-      x.feed(w[0], w[1], w[2], w[3], w[4]);
-    }
-    x.end(text.length());
-  }
-
   private static int dearCalls(LastLoads x, int calls) {
     int sum = 0;
     for (int i = 0; i < calls; i++) {
@@ -106,9 +97,9 @@ public final class LanguageTest {
 
   private static LastLoads large() {
     LastLoads x = new LastLoads();
-    say(x, "places 9" + ";road 0 1 1 5".repeat(9) + ";road 1 2 2 0;road 2 3 4 1;carter 0" + ";load 4 0 3 1".repeat(8));
+    Told.say(x, "places 9" + ";road 0 1 1 5".repeat(9) + ";road 1 2 2 0;road 2 3 4 1;carter 0" + ";load 4 0 3 1".repeat(8));
     want(x.net() == 11, "the large net");
-    say(x, "bar all" + "+1".repeat(57) + "=1");
+    Told.say(x, "bar all" + "+1".repeat(57) + "=1");
     want(x.rule() == 0, "the long rule");
     x.force(0);
     return x;

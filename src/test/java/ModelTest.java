@@ -35,8 +35,7 @@ public final class ModelTest {
   private void say(String text) {
     log.append("-- ").append(text).append('\n');
     for (int i = 0; i < text.length(); i += 20) {
-      int[] w = new int[5];
-      for (int k = 0; k < 20; k++) w[k / 4] = w[k / 4] << 8 | (i + k < text.length() ? text.charAt(i + k) : 0);
+      int[] w = Told.words(text, i);
       due("feed", x.feed(w[0], w[1], w[2], w[3], w[4]), y.feed(w));
     }
     due("end " + text.length(), x.end(text.length()), y.end(text.length()));

@@ -12,18 +12,9 @@ public final class PromiseTest {
 
   private static void due(String call, boolean got, boolean want) { due(call, got ? 1 : 0, want ? 1 : 0); }
 
-  private static void say(LastLoads x, String text) {
-    for (int i = 0; i < text.length(); i += 20) {
-      int[] w = new int[5];
-      for (int k = 0; k < 20; k++) w[k / 4] = w[k / 4] << 8 | (i + k < text.length() ? text.charAt(i + k) : 0);
-      x.feed(w[0], w[1], w[2], w[3], w[4]);
-    }
-    x.end(text.length());
-  }
+  private static int net(LastLoads x, String text) { Told.say(x, text); return x.net(); }
 
-  private static int net(LastLoads x, String text) { say(x, text); return x.net(); }
-
-  private static int rule(LastLoads x, String text) { say(x, text); return x.rule(); }
+  private static int rule(LastLoads x, String text) { Told.say(x, text); return x.rule(); }
 
   private static LastLoads with(String text) {
     LastLoads x = new LastLoads();
@@ -168,7 +159,7 @@ public final class PromiseTest {
     due("fault", rule(x, "bar"), -3 - 24);
     due("tape behind a fault", x.count(10), 0);
     for (int i = 0; i < 6; i++) due("rule " + i, rule(x, "bar all=0"), i);
-    say(x, "bar all=0");
+    Told.say(x, "bar all=0");
     due("a seventh", x.rule(), -1);
     due("its tape stays", x.count(10), 9);
     due("rules", x.count(6), 6);
