@@ -1,37 +1,5 @@
 /** For each promise of the document ordinary inputs, its edges and wrong inputs, with answers worked out by hand. */
-public final class PromiseTest {
-  private static int wrong = 0;
-  private static int promise = 0;
-
-  private static void due(String call, long got, long want) {
-    if (got != want) {
-      wrong++;
-      System.out.println("promise " + promise + ": " + call + " answered " + got + ", due is " + want);
-    }
-  }
-
-  private static void due(String call, boolean got, boolean want) { due(call, got ? 1 : 0, want ? 1 : 0); }
-
-  private static int net(LastLoads x, String text) { Told.say(x, text); return x.net(); }
-
-  private static int rule(LastLoads x, String text) { Told.say(x, text); return x.rule(); }
-
-  private static LastLoads with(String text) {
-    LastLoads x = new LastLoads();
-    due("net " + text, net(x, text) >= 0, true);
-    return x;
-  }
-
-  private static void netFault(String text, int place, int why) {
-    due("net '" + text + "'", net(new LastLoads(), text), -3 - 8 * place - why);
-  }
-
-  private static void ruleFault(String text, int place, int why) {
-    due("rule '" + text + "'", rule(new LastLoads(), text), -3 - 8 * place - why);
-  }
-
-  private static void ruleStands(String text) { due("rule '" + text + "'", rule(new LastLoads(), text), 0); }
-
+public final class PromiseTest extends Check {
   private static final String FOUR =
       "places 4;road 0 1 2 0;road 1 2 3 5;road 0 2 9 0;road 2 3 1 4;carter 0;load 5 0 2 9;load 4 1 3 7;load 2 3 0 5";
 
@@ -202,14 +170,6 @@ public final class PromiseTest {
     ruleFault(twelve + "; bar 1=1", twelve.length() + 2, 4);
     ruleFault(twelve + "; bat 1=1", twelve.length() + 2, 0);
     ruleFault(twelve + ";", twelve.length() + 1, 0);
-  }
-
-  /** Whether a fact holds for the first drive of a carter at day 0, empty, by the second road from 2 to 1. */
-  private static void holds(String fact, boolean want) {
-    LastLoads x = with("places 3;road 0 1 2 0;road 1 2 7 3;carter 2");
-    due("rule " + fact, rule(x, "bar " + fact), 0);
-    x.force(0);
-    due("bar " + fact, x.drive(0, 1), want ? -5 : 1);
   }
 
   private static void force() {
@@ -701,11 +661,10 @@ public final class PromiseTest {
       PromiseTest::better, PromiseTest::found, PromiseTest::drove, PromiseTest::seed, PromiseTest::weeks,
       PromiseTest::count, PromiseTest::images, PromiseTest::images};
     for (int i = 0; i < promises.length; i++) {
-      promise = i + 1;
+      says("promise " + (i + 1));
       promises[i].run();
     }
     due("NONE", LastLoads.NONE, -1);
-    System.out.println(wrong == 0 ? "all answers are as due" : wrong + " answers are not as due");
-    if (wrong != 0) System.exit(1);
+    finish();
   }
 }
