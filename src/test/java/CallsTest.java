@@ -442,6 +442,28 @@ public final class CallsTest extends Check {
     refused("count", -1, LastLoads::count, MIN, -1, 12, 13, MAX);
     int[] counts = {4, 4, 3, 5, 1, 5, 2, 0, 2, 77, 21, 1};
     for (int what = 0; what < 12; what++) due("count " + what, Rich.make().count(what), counts[what]);
+
+    says("count: 11: ROADS whose LAST is 0");
+    due("none", with("places 2" + ";road 0 1 1 7".repeat(16)).count(11), 0);
+    due("all 16", with("places 2" + ";road 0 1 1 0".repeat(16)).count(11), 16);
+    due("the first", with("places 2;road 0 1 1 0" + ";road 0 1 1 1".repeat(15)).count(11), 1);
+    due("the last", with("places 2" + ";road 0 1 1 1".repeat(15) + ";road 0 1 1 0").count(11), 1);
+
+    says("count: 4: LOADS that are THERE, 8: ROADS FOUND");
+    LastLoads x = with("places 2" + ";road 0 1 1 0".repeat(16) + ";carter 0" + ";load 1 0 1 1".repeat(8));
+    for (int i = 0; i < 8; i++) {
+      due("THERE", x.count(4), i);
+      x.take(0, 7 - i);
+      x.drive(0, 0);
+      x.lay(0);
+      x.drive(0, 1);
+    }
+    due("all eight", x.count(4), 8);
+    for (int i = 0; i < 16; i++) {
+      due("FOUND", x.count(8), i);
+      x.found(15 - i, i % 8);
+    }
+    due("all 16", x.count(8), 16);
   }
 
   private static void images() {

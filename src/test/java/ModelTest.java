@@ -155,7 +155,7 @@ public final class ModelTest {
     int r = to(9) == 0 ? to(20) - 2 : to(8);
     int l = to(9) == 0 ? to(11) - 2 : to(5);
     switch (to(5)) {
-      case 0 -> due("take " + c + " " + l, x.take(c, l) ? 1 : 0, y.take(c, l) ? 1 : 0);
+      case 0 -> due("take " + c + " " + l, bit(x.take(c, l)), bit(y.take(c, l)));
       case 1 -> { if (to(2) == 0) due("lay " + c, x.lay(c), y.lay(c)); }
       case 2 -> due("drive " + c + " " + r, x.drive(c, r), y.drive(c, r));
       default -> onward(c);
@@ -189,7 +189,7 @@ public final class ModelTest {
       case 8 -> due("order " + what, x.order(what), y.order(what));
       case 9 -> { int r = to(18) - 1; due("dear " + r, x.dear(r), y.dear(r)); }
       case 10 -> { int d = to(11), w = to(5) - 1; due("better " + d + " " + w, x.better(d, w), y.better(d, w)); }
-      case 11 -> { int r = to(7) - 1, f = to(10) - 2; due("found " + r + " " + f, x.found(r, f) ? 1 : 0, y.found(r, f) ? 1 : 0); }
+      case 11 -> { int r = to(7) - 1, f = to(10) - 2; due("found " + r + " " + f, bit(x.found(r, f)), bit(y.found(r, f))); }
       case 12, 13 -> { int n = to(5), w = to(7) - 1; due("drove " + n + " " + w, x.drove(n, w), y.drove(n, w)); }
       case 14 -> { int s = to(4) == 0 ? -to(9) : draw.nextInt() & 0x7fffffff; due("seed " + s, x.seed(s), y.seed(s)); }
       case 15 -> { int m = to(4), n = to(9) == 0 ? 28 + to(4) : to(12), w = to(4) - 1;
@@ -198,6 +198,43 @@ public final class ModelTest {
       case 17 -> { int k = to(6) - 1; due("back " + k, x.back(k), y.back(k)); }
       case 18 -> { int r = to(8) - 1; due("force " + r, x.force(r), y.force(r)); }
       default -> look();
+    }
+  }
+
+  private int any() {
+    int[] far = {Integer.MIN_VALUE, Integer.MIN_VALUE + 1, -1000000, 400, 1 << 30, Integer.MAX_VALUE - 1, Integer.MAX_VALUE};
+    return to(6) == 0 ? far[to(far.length)] : to(14) - 3;
+  }
+
+  private static int bit(boolean b) { return b ? 1 : 0; }
+
+  /** A call with arguments that may be anything. */
+  private void odd() {
+    int a = any(), b = any(), c = any(), d = any();
+    String args = " of " + a + " " + b + " " + c + " " + d;
+    switch (to(22)) {
+      case 0 -> due("end" + args, x.end(a), y.end(a));
+      case 1 -> due("force" + args, x.force(a), y.force(a));
+      case 2 -> due("road" + args, x.road(a, b), y.road(a, b));
+      case 3 -> due("carter" + args, x.carter(a, b), y.carter(a, b));
+      case 4 -> due("load" + args, x.load(a, b), y.load(a, b));
+      case 5 -> due("drive" + args, x.drive(a, b), y.drive(a, b));
+      case 6 -> due("take" + args, bit(x.take(a, b)), bit(y.take(a, b)));
+      case 7 -> due("lay" + args, x.lay(a), y.lay(a));
+      case 8 -> due("soonest" + args, x.soonest(a, b, c), y.soonest(a, b, c));
+      case 9 -> due("way" + args, x.way(a, b, c, d), y.way(a, b, c, d));
+      case 10 -> due("reached" + args, x.reached(a, b), y.reached(a, b));
+      case 11 -> due("wiped" + args, x.wiped(a, b, c, d), y.wiped(a, b, c, d));
+      case 12 -> due("plan" + args, x.plan(a, b), y.plan(a, b));
+      case 13 -> due("order" + args, x.order(a), y.order(a));
+      case 14 -> due("dear" + args, x.dear(a), y.dear(a));
+      case 15 -> due("better" + args, x.better(a, b), y.better(a, b));
+      case 16 -> due("found" + args, bit(x.found(a, b)), bit(y.found(a, b)));
+      case 17 -> due("drove" + args, x.drove(a, b), y.drove(a, b));
+      case 18 -> due("seed" + args, x.seed(a), y.seed(a));
+      case 19 -> due("weeks" + args, x.weeks(a, b, c), y.weeks(a, b, c));
+      case 20 -> due("count" + args, x.count(a), y.count(a));
+      default -> due("back" + args, x.back(a), y.back(a));
     }
   }
 
@@ -215,7 +252,8 @@ public final class ModelTest {
     for (int i = 0; calls < 450 && i < 500 && !broken; i++) {
       int k = to(40);
       if (i == 0 || k == 0) text();
-      else if (k < 20) hand();
+      else if (k < 18) hand();
+      else if (k < 21) odd();
       else ask();
     }
     if (!broken) look();

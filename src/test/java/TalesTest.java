@@ -170,6 +170,32 @@ public final class TalesTest extends Check {
     due("drove", z.drove(1, 0), 0);
     due("better", z.better(1, 2), 1);
     due("plan", z.plan(0, 0), 6);
+    LastLoads w = with("places 2;road 0 1 3 0;load 1 0 1 5;load 1 1 0 5", "bar not day=0");
+    due("from the first", w.soonest(1, 0, 1), 3);
+    due("from the second", w.soonest(1, 1, 0), 3);
+    due("neither is stuck", w.stuck(), 0);
+  }
+
+  /** A line of ten PLACES whose ROADS are told from the greater PLACE or not, the last of them first or not. */
+  private static void tenPlaces(boolean turned, boolean lastFirst) {
+    StringBuilder s = new StringBuilder("places 10");
+    for (int i = 0; i < 9; i++) {
+      int p = lastFirst ? 8 - i : i;
+      s.append(";road " + (turned ? p + 1 + " " + p : p + " " + (p + 1)) + " " + (p + 1) + " 0");
+    }
+    LastLoads x = with(s.toString());
+    due("up", x.soonest(7, 0, 9), 45);
+    due("down", x.soonest(7, 9, 0), 45);
+    for (int k = 0; k < 9; k++) {
+      due("up " + k, x.way(7, 0, 9, k), lastFirst ? 8 - k : k);
+      due("down " + k, x.way(7, 9, 0, k), lastFirst ? k : 8 - k);
+    }
+    due("no tenth up", x.way(7, 0, 9, 9), -2);
+    due("no tenth down", x.way(7, 9, 0, 9), -2);
+    due("from the first", x.reached(7, 0), 1023);
+    due("from the last", x.reached(7, 9), 1023);
+    due("days up", x.wiped(7, 0, 9, 1), 45);
+    due("days down", x.wiped(7, 9, 0, 1), 45);
   }
 
   private static void ways() {
@@ -186,6 +212,20 @@ public final class TalesTest extends Check {
     due("then", y.way(1, 0, 2, 1), 3);
     due("back", y.way(1, 2, 0, 0), 3);
     due("then", y.way(1, 2, 0, 1), 1);
+
+    LastLoads u = with("places 3;road 1 0 1 0;road 0 1 1 0;road 1 2 1 0", "bar to<from;bar road=0 and to=1");
+    due("days one way", u.soonest(1, 0, 2), 2);
+    due("not the least, which is barred that way", u.way(1, 0, 2, 0), 1);
+    due("then", u.way(1, 0, 2, 1), 2);
+    due("barred the other way", u.way(1, 2, 0, 0), -2);
+    LastLoads t = with("places 2;road 0 1 1 0;road 1 0 1 0", "bar road=0 and from=1;bar road=1 and from=0");
+    due("there", t.way(1, 0, 1, 0), 0);
+    due("and back", t.way(1, 1, 0, 0), 1);
+
+    says("SOONEST, WAY and REACHED over all ten PLACES, however the ROADS are told");
+    for (boolean turned : new boolean[] {false, true}) {
+      for (boolean last : new boolean[] {false, true}) tenPlaces(turned, last);
+    }
 
     says("REACHED: PLACES to which one can come so (as bits, the first, too)");
     due("all ten", with(line(1, 7)).reached(7, 9), 1023);
@@ -211,6 +251,8 @@ public final class TalesTest extends Check {
 
     says("(law 3 not asked)");
     due("barred", with(line(1, 0), "bar 1=1").wiped(1, 0, 9, 1), 9);
+    due("barred back", with(line(1, 0), "bar 1=1").wiped(1, 9, 0, 1), 9);
+    due("and wiped", with(line(2, 5), "bar 1=1").wiped(1, 9, 0, 0), 9);
   }
 
   private static void plans() {
@@ -245,6 +287,16 @@ public final class TalesTest extends Check {
     due("two DRIVES by hand", x.plan(1, 0), -2);
     x.force(3);
     due("two on the first ROAD", x.plan(1, 0), -2);
+
+    says("SITUATIONS (where he is, whether he has it, LAST of all ROADS): ten PLACES, 16 ROADS, LAST 0 to 7");
+    // as above, between the last PLACES: he wipes the ROAD first, by an empty run there and back
+    due("PLACES 7 to 9", with("places 10;road 8 9 2 0;road 9 7 3 5;carter 9;load 4 8 7 1").plan(0, 0), 13);
+    String sixteen = "places 5;road 0 1 2 0" + ";road 3 4 1 7".repeat(14) + ";road 1 2 3 ";
+    for (int last = 0; last <= 7; last++) {
+      String net = sixteen + last + ";carter 1;load 7 0 2 1;load 1 0 2 1";
+      due("KIND 7 behind " + last, with(net).plan(0, 0), last == 0 || last == 7 ? 7 : 13);
+      due("KIND 1 behind " + last, with(net).plan(0, 1), last < 2 ? 7 : 13);
+    }
 
     says("is had with fewer DAYS now");
     due("round", with("places 3;road 0 1 9 4;road 0 2 1 4;road 2 1 1 4;carter 0;load 4 0 1 0").plan(0, 0), 2);
@@ -310,6 +362,21 @@ public final class TalesTest extends Check {
     due("then 2", w.order(4), 2);
     due("how many", w.order(1), 3);
 
+    says("BEST ORDER: by which most WORTH goes");
+    // 0 must leave the short ROAD to the other one, be that worth 1 alone
+    LastLoads u = with("places 2;road 0 1 1 0;road 0 1 2 1;load 1 0 1 9;load 2 0 1 1");
+    due("one more", u.order(0), 10);
+    due("1 goes first", u.order(2), 1);
+    due("then 0", u.order(3), 0);
+    // each goes as the DRIVES there were bid, by a ROAD of its own: the last of all 720 orders is the best
+    StringBuilder own = new StringBuilder("places 2");
+    for (int k = 1; k <= 6; k++) own.append(";road 0 1 1 " + k);
+    for (int k = 6; k >= 1; k--) own.append(";load " + k + " 0 1 99");
+    LastLoads s = with(own.toString(), "bar all+1<kind or all+1>kind");
+    due("all go", s.order(0), 6 * 99);
+    due("how many", s.order(1), 6);
+    for (int i = 0; i < 6; i++) due("place " + i, s.order(2 + i), 5 - i);
+
     says("of several the first (as a row of numbers)");
     LastLoads v = with("places 2" + ";load 1 0 1 1".repeat(6));
     due("none goes", v.order(0), 0);
@@ -352,6 +419,10 @@ public final class TalesTest extends Check {
     due("stuck", w.better(1, 2), 2);
     due("all alike", with("places 4").better(1, 0), 0);
     due("all alike", with("places 4").better(1, 1), 1);
+    LastLoads v = with("places 3" + ";load 1 0 2 0".repeat(8), "bar 1=1");
+    due("all eight stuck", v.better(1, 2), 8);
+    due("lesser", v.better(1, 0), 0);
+    due("other", v.better(1, 1), 1);
   }
 
   private static void rows() {

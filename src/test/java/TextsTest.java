@@ -35,11 +35,20 @@ public final class TextsTest extends Check {
     netFault(start + blanks(399 - start.length()) + "8", 399, 1);
     netFault("places 2" + blanks(391) + ";", 400, 0);
     netStands("places 2" + blanks(392));
+    netFault("places 2" + blanks(387) + ";road", 400, 0);
+    netFault("places 2" + blanks(386) + ";roads", 395, 0);
 
     says("RULES 0 to 5: texts likewise");
     ruleStands("bar 1=" + blanks(393) + "1");
     ruleFault("bar 1=" + blanks(393) + "x", 399, 0);
     ruleFault("bar 1=" + blanks(394), 400, 0);
+    ruleStands("bar 1=" + blanks(391) + "all");
+    ruleFault("bar 1=" + blanks(390) + "alls", 396, 0);
+    ruleFault("bar 1=1" + blanks(389) + ";bar", 400, 0);
+    ruleFault("bar 1=1" + blanks(390) + "and", 400, 0);
+    ruleFault("bar" + blanks(394) + "not", 400, 0);
+    ruleFault("bar 1" + blanks(393) + "<=", 400, 0);
+    ruleFault("bar 1" + blanks(394) + "<", 400, 0);
   }
 
   private static void clauses() {
@@ -180,6 +189,39 @@ public final class TextsTest extends Check {
     netFault("places 2;bar 1=1", 9, 0);
   }
 
+  /** The bytes just inside and just beyond the small letters and the digits. */
+  private static void edgesOfWordsAndNumbers() {
+    says("WORDS (small letters, as far as these go on): a and z are, the bytes beside them are not");
+    for (char c : new char[] {'a', 'z'}) {
+      netFault("places" + c + " 2", 0, 0);
+      netFault("places 2;road" + c + " 0 1 1 0", 9, 0);
+      ruleFault("bar" + c + " 1=1", 0, 0);
+      ruleFault("bar not" + c + " 1=1", 4, 0);
+      ruleFault("bar 1=1 and" + c + " 1=1", 8, 0);
+      ruleFault("bar all" + c + "=1", 4, 0);
+      ruleFault("bar 1=day" + c, 6, 0);
+    }
+    for (char c : new char[] {'`', '{', 'A', 'Z'}) {
+      netFault("places" + c + "2", 6, 0);
+      netFault("places 2;road" + c + "0 1 1 0", 13, 0);
+      ruleFault("bar" + c + "1=1", 3, 0);
+      ruleFault("bar not" + c + "1=1", 7, 0);
+      ruleFault("bar all" + c + "=1", 7, 0);
+      ruleFault("bar 1=day" + c, 9, 0);
+    }
+
+    says("NUMBER (as far as digits go on): 0 and 9 are, the bytes beside them are not");
+    for (char c : new char[] {'/', ':'}) {
+      netFault("places 2" + c, 8, 0);
+      netFault("places " + c, 7, 0);
+      ruleFault("bar " + c + "1=1", 4, 0);
+    }
+    ruleFault("bar 1:=1", 5, 0);
+    netFault("places 20", 7, 1);
+    netFault("places 29", 7, 1);
+    holds("10=10 and 19=19 and 90=90 and 99=99", true);
+  }
+
   private static void wordsOfADrive() {
     says("kind (of what is carried; 0 empty)");
     LastLoads x = with("places 2;road 0 1 2 0;carter 0;load 7 0 1 0", "bar kind=0;wipe 1=2");
@@ -316,6 +358,49 @@ public final class TextsTest extends Check {
     ruleFault("bar not [not[" + twenty + "] and 1=1]", 4 + 9 + twenty.length() + 6, 3);
   }
 
+  private static void oneTextAfterAnother() {
+    says("at most 60 VALUES, 12 CLAUSES and 10 deep are of one text");
+    String sixty = "bar 1=1" + " or 1=1".repeat(19);
+    String twelve = "wipe 1=1" + ";bar 1=1".repeat(11);
+    String ten = "bar " + "[".repeat(10) + "1=1" + "]".repeat(10);
+    LastLoads x = new LastLoads();
+    due("60", rule(x, sixty), 0);
+    due("60 again", rule(x, sixty), 1);
+    due("61", rule(x, sixty + " or 1=1"), -3 - 8 * (sixty.length() + 4) - 3);
+    due("60 behind a FAULT", rule(x, sixty), 2);
+    due("12", rule(x, twelve), 3);
+    due("11 deep", rule(x, ten.replace("1=1", "[1=1]")), -3 - 8 * 14 - 2);
+    due("10 deep behind a FAULT", rule(x, ten), 4);
+    due("12 again", rule(x, twelve), 5);
+
+    says("A RULE has its own TESTS alone");
+    LastLoads y = with("places 2;road 0 1 1 6;carter 0");
+    due("a wipe", rule(y, "wipe 1=1"), 0);
+    due("a FAULT behind both", rule(y, "wipe 1=1;bar 1=1;x"), -3 - 8 * 17);
+    due("neither", rule(y, "bar 1=2"), 1);
+    due("a bar", rule(y, "bar 1=1;wipe 1=2"), 2);
+    due("neither", rule(y, "wipe 1=2"), 3);
+    for (int r : new int[] {1, 3}) {
+      y.force(r);
+      due("not barred", y.drive(0, 0) >= 0, true);
+      due("not wiped", y.road(0, 3), 6);
+    }
+    y.force(2);
+    due("barred", y.drive(0, 0), -5);
+    y.force(0);
+    due("not barred", y.drive(0, 0), 1);
+    due("wiped", y.road(0, 3), 0);
+
+    says("a NET has its own PLACES, ROADS, CARTERS and LOADS alone");
+    LastLoads z = with("places 9" + ";road 7 8 1 1".repeat(16) + ";carter 8".repeat(4) + ";load 1 7 8 1".repeat(8));
+    due("a FAULT", net(z, "places 9;road 7 8 1 1;carter 8;load 1 7 8 1;x"), -3 - 8 * 44);
+    due("behind it", net(z, "places 2;road 0 1 1 0"), 1);
+    int[] counts = {2, 1, 0, 0};
+    for (int what = 0; what < 4; what++) due("count " + what, z.count(what), counts[what]);
+    due("a PLACE of the other one", net(z, "places 2;carter 2"), -3 - 8 * 16 - 1);
+    due("no places", net(z, "carter 0"), -3 - 4);
+  }
+
   private static void faults() {
     says("FAULTS, the first along the text");
     netFault("places 11;road 0 0 1 0", 7, 1);
@@ -394,12 +479,14 @@ public final class TextsTest extends Check {
     numbering();
     numbersOfRules();
     words();
+    edgesOfWordsAndNumbers();
     wordsOfADrive();
     arithmetic();
     signs();
     blanksBetween();
     depth();
     values();
+    oneTextAfterAnother();
     faults();
     finish();
   }
