@@ -401,6 +401,36 @@ public final class TextsTest extends Check {
     due("no places", net(z, "carter 0"), -3 - 4);
   }
 
+  /** Tells a text with others behind it that were cut off. */
+  private static LastLoads cut(String text, String gone) {
+    LastLoads x = new LastLoads();
+    Told.say(x, text + gone);
+    x.end(text.length());
+    return x;
+  }
+
+  private static void whatWasBehind() {
+    says("The TAPE has its first n bytes alone: what stood behind them is not read");
+    String net = " places 10 ; road 00000 9  1 7;carter 9;load 7 9  8 99 ";
+    String rule = " bar not [ all <= 12345 ] or days/2 >=  10 and to=1;wipe kind >0 ";
+    String[] ends = {"", " ", "   ", "0", "9", "a", "z", "s", "=", "=1", ";", "]", "[", " 1", "]" + blanks(9), "x"};
+    for (int n = 0; n <= net.length(); n++) {
+      int want = net(new LastLoads(), net.substring(0, n));
+      due("net cut at " + n, cut(net.substring(0, n), net.substring(n)).net(), want);
+      for (String gone : ends) due("net " + n + " ahead of " + gone, cut(net.substring(0, n), gone).net(), want);
+    }
+    for (int n = 0; n <= rule.length(); n++) {
+      int want = rule(new LastLoads(), rule.substring(0, n));
+      due("rule cut at " + n, cut(rule.substring(0, n), rule.substring(n)).rule(), want);
+      for (String gone : ends) due("rule " + n + " ahead of " + gone, cut(rule.substring(0, n), gone).rule(), want);
+    }
+    due("a NUMBER", cut("places 1", "0").net(), 0);
+    due("a WORD", cut("places", "s").net(), -3 - 8 * 6);
+    due("the end", cut("places", " ").net(), -3 - 8 * 6);
+    due("a SIGN", cut("bar 1<", "=").rule(), -3 - 8 * 6);
+    due("a VALUE", cut("bar 1=all", "s").rule(), 0);
+  }
+
   private static void faults() {
     says("FAULTS, the first along the text");
     netFault("places 11;road 0 0 1 0", 7, 1);
@@ -487,6 +517,7 @@ public final class TextsTest extends Check {
     depth();
     values();
     oneTextAfterAnother();
+    whatWasBehind();
     faults();
     finish();
   }
