@@ -826,8 +826,9 @@ public final class LastLoads {
             all = 0;
         }
 
+        /** What is no PLACE doesn't come in, as PLACES are indexes later on. */
         void add(int from, int to, int roadDays, int roadLast) {
-            if (size < ROOM) {
+            if (size < ROOM && hasPlace(from) && hasPlace(to)) {
                 one[size] = from;
                 other[size] = to;
                 days[size] = roadDays;
@@ -932,7 +933,7 @@ public final class LastLoads {
         }
 
         void addCarter(int place) {
-            if (carters < MAX_CARTERS) {
+            if (carters < MAX_CARTERS && roads.hasPlace(place)) {
                 stands[carters] = place;
                 carries[carters] = NONE;
                 day[carters] = 0;
@@ -941,7 +942,7 @@ public final class LastLoads {
         }
 
         void addLoad(int loadKind, int from, int to, int loadWorth) {
-            if (loads < MAX_LOADS) {
+            if (loads < MAX_LOADS && roads.hasPlace(from) && roads.hasPlace(to)) {
                 kind[loads] = loadKind;
                 lies[loads] = from;
                 goal[loads] = to;

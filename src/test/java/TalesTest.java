@@ -302,6 +302,25 @@ public final class TalesTest extends Check {
     due("round", with("places 3;road 0 1 9 4;road 0 2 1 4;road 2 1 1 4;carter 0;load 4 0 1 0").plan(0, 0), 2);
   }
 
+  /**
+   * A line of PLACES 0 to 7, with seven dirty ROADS beside its ends in turn. The first of these can be wiped when he
+   * has come to the far end, the second when he is back again, and so on; only behind all is the LOAD's ROAD open:
+   * 8 times 63 DAYS, 9 and 9 to the LOAD and back, as much again with it, as no ROAD of the seven is open sooner,
+   * and 9 to its end.
+   */
+  private static void farPlan() {
+    says("PLAN: the fewest DAYS, be they over 1000");
+    StringBuilder s = new StringBuilder("places 10");
+    for (int p = 0; p < 7; p++) s.append(";road " + p + " " + (p + 1) + " 9 1");
+    s.append(";road 0 8 9 1;road 0 9 9 1");
+    for (int i = 0; i < 7; i++) s.append(i % 2 == 0 ? ";road 6 7 9 5" : ";road 0 1 9 5");
+    s.append(";carter 0;load 1 8 9 0");
+    String wipe = "wipe road>8 and day>=63*road-504";
+    String bars = ";bar road=7 and day<504;bar kind>0 and road>8 and day<18+63*road;bar road=8 and day<";
+    due("far", with(s.toString(), wipe + bars + "1026").plan(0, 0), 504 + 18 + 504 + 9);
+    due("a day too far", with(s.toString(), wipe + bars + "1027").plan(0, 0), -2);
+  }
+
   /** Places in the row of SITUATIONS show where a 1001st comes just behind or just ahead of the goal. */
   private static void situations() {
     says("1000 at most: if one more would come, it is UNKNOWN");
@@ -391,6 +410,10 @@ public final class TalesTest extends Check {
     due("none", x.dear(2), 0);
     due("is 0", with("places 2;road 0 1 1 0;load 4 0 1 9").dear(0), 0);
     due("no LOAD", with("places 2;road 0 1 1 7").dear(0), 0);
+    // 1 would go by the ROAD that 0 needs: as it is both go, 1 ahead of 0, and else never both
+    LastLoads less = with("places 3;road 1 0 8 0;road 2 0 5 3;road 2 0 7 2;road 1 0 9 3;load 3 2 1 5;load 2 2 1 7");
+    due("as it is", less.order(0), 5 + 7);
+    due("7 for 12", less.dear(1), 7 - 12);
 
     says("NEW ROAD of so many DAYS (1 to 9), LAST 0");
     LastLoads y = with("places 2;load 1 0 1 0", "bar road>0 or days<9 or last>0 or runs>0 or all>0");
@@ -558,6 +581,7 @@ public final class TalesTest extends Check {
     words();
     ways();
     plans();
+    farPlan();
     situations();
     orders();
     newRoads();
